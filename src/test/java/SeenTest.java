@@ -1,0 +1,128 @@
+/** Promises 29 to 34: what it was, told from WAGES. */
+public final class SeenTest {
+    private static final int BAD = HaulWages.BAD, FULL = HaulWages.FULL, NONE = HaulWages.NONE;
+    private static final int ALL = (1 << 21) - 2;
+    // Behind 1, 2, 3 WEEKS: STRENGTH 1: 0 0 0. 2: 4 4 4 (BENT). 3: 5 9 9 (BENT twice). 4 on: 5 10 15.
+    private static final String ONE = "plain 3 5;plain 2 4;one 4;hooter 1;brings 8;";
+
+    public static void main(String[] args) {
+        seeing();
+        forgetting();
+        whichStrengths();
+        whichKindsAndWeights();
+        fromHowItStands();
+        whenToAskWhom();
+        Due.finish();
+    }
+
+    private static void seeing() {
+        HaulWages x = Due.bay(ONE);
+        int[][] bad = {{-1, 0, 0}, {21, 0, 0}, {0, -1, 0}, {0, 1, 0}, {0, 0, -1}, {0, 0, 1000}};
+        for (int[] b : bad) {
+            Due.due("see, BAD", x.see(b[0], b[1], b[2]), BAD);
+        }
+        for (int i = 1; i <= 6; i++) {
+            Due.due("see " + i, x.see(20, 0, i % 2 * 999), i);
+        }
+        Due.due("see 7", x.see(0, 0, 0), FULL);
+        for (int[] b : bad) {
+            Due.due("see, BAD ahead of FULL", x.see(b[0], b[1], b[2]), BAD);
+        }
+        Due.due("count(0)", x.count(0), 6);
+    }
+
+    private static void forgetting() {
+        HaulWages x = Due.bay(ONE);
+        Due.due("forget(0) of none", x.forget(0), 0);
+        Due.due("forget(1) of none", x.forget(1), BAD);
+        x.see(1, 0, 5);
+        x.see(2, 0, 9);
+        x.see(0, 0, 7);
+        Due.due("nothing is so", x.strengths(0), 0);
+        Due.due("forget(-1)", x.forget(-1), BAD);
+        Due.due("forget(4)", x.forget(4), BAD);
+        Due.due("forget(3)", x.forget(3), 3);
+        Due.due("forget(2)", x.forget(2), 3);
+        Due.due("the first two are SEEN", x.strengths(0), 1 << 3);
+        Due.due("forget(0)", x.forget(0), 2);
+        Due.due("nothing is SEEN", x.strengths(0), ALL);
+    }
+
+    private static void whichStrengths() {
+        HaulWages x = Due.bay(ONE);
+        Due.due("strengths(0)", x.strengths(0), ALL);
+        x.see(1, 0, 5);
+        Due.due("strengths(0), 5 behind 1", x.strengths(0), ALL - 2 - 4);
+        x.see(2, 0, 10);
+        Due.due("strengths(0), 10 behind 2", x.strengths(0), ALL - 2 - 4 - 8);
+        x.forget(0);
+        x.see(20, 0, 100);
+        Due.due("strengths(0), 100 behind 20", x.strengths(0), ALL - 2 - 4 - 8);
+        x.forget(0);
+        x.see(20, 0, 4);
+        Due.due("strengths(0), 4 behind 20", x.strengths(0), 4);
+        x.see(0, 0, 0);
+        Due.due("strengths(0), 0 behind 0", x.strengths(0), 4);
+        x.see(0, 0, 1);
+        Due.due("strengths(0), 1 behind 0", x.strengths(0), 0);
+        Due.due("strengths(1)", x.strengths(1), BAD);
+        Due.due("strengths(-1)", x.strengths(-1), BAD);
+        Due.due("STRENGTH stays", x.one(0, 0), 4);
+    }
+
+    private static void whichKindsAndWeights() {
+        HaulWages x = Due.bay(ONE);
+        Due.due("kinds(0) of nothing SEEN", x.kinds(0), 15);
+        Due.due("weights(0) of nothing SEEN", x.weights(0), 1022);
+        x.see(1, 0, 5);
+        Due.due("kinds(0), 5", x.kinds(0), 1);
+        Due.due("weights(0), 5", x.weights(0), 2 + 4 + 8 + 16);
+        Due.due("kinds(1), 5", x.kinds(1), 1 + 2 + 4);
+        x.forget(0);
+        x.see(1, 0, 4);
+        Due.due("kinds(0), 4", x.kinds(0), 2 + 4 + 8);
+        Due.due("weights(0), 4", x.weights(0), 32 + 64 + 128 + 256 + 512);
+        Due.due("weights(1), 4", x.weights(1), 0);
+        Due.due("kinds(2)", x.kinds(2), BAD);
+        Due.due("kinds(-1)", x.kinds(-1), BAD);
+        Due.due("weights(2)", x.weights(2), BAD);
+        Due.due("weights(-1)", x.weights(-1), BAD);
+        Due.due("KIND stays", x.good(0, 0), 0);
+        Due.due("WEIGHT stays", x.good(0, 1), 3);
+    }
+
+    private static void fromHowItStands() {
+        HaulWages x = Due.bay(ONE);
+        x.see(1, 0, 5);
+        x.keep(0);
+        x.weeks(1);
+        Due.due("asked a WEEK later", x.strengths(0), 2);
+        Due.due("kinds(0) a WEEK later", x.kinds(0), 0);
+        x.back(0);
+        Due.due("SEEN stays by back()", x.strengths(0), ALL - 2 - 4);
+    }
+
+    private static void whenToAskWhom() {
+        HaulWages x = Due.bay(ONE);
+        Due.due("ask(0, 0)", x.ask(0, 0), 20);
+        Due.due("ask(0, 1)", x.ask(0, 1), 17);
+        x.see(1, 0, 5);
+        Due.due("ask(0, 0), 5 SEEN", x.ask(0, 0), 20);
+        Due.due("ask(0, 1), 5 SEEN", x.ask(0, 1), 17);
+        x.see(2, 0, 10);
+        Due.due("ask(0, 0): all alike", x.ask(0, 0), NONE);
+        Due.due("ask(0, 1): all alike", x.ask(0, 1), NONE);
+        x.see(2, 0, 9);
+        Due.due("ask(0, 0): none is left", x.ask(0, 0), NONE);
+        Due.due("ask(1, 0)", x.ask(1, 0), BAD);
+        Due.due("ask(-1, 0)", x.ask(-1, 0), BAD);
+        Due.due("ask(0, 2)", x.ask(0, 2), BAD);
+        Due.due("ask(0, -1)", x.ask(0, -1), BAD);
+        // He has 999 whatever he takes; only what he leaves to the other tells how strong he is.
+        x = Due.bay("plain 3 5;plain 2 4;one 4;one 20;hooter 1;brings 8;");
+        x.train(0, 1, 999);
+        Due.due("ask(0, 0): ask the other", x.ask(0, 0), 21);
+        Due.due("ask(0, 1): ask the other", x.ask(0, 1), 17);
+        Due.due("WEEK", x.rule(2), 0);
+    }
+}
