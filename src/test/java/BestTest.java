@@ -112,6 +112,13 @@ public final class BestTest {
         x = Due.bay("plain 1 9;plain 9 8;plain 9 7;one 20;one 20;one 1;hooter 1;brings 0;");
         Due.due("swap: the first and the last", x.swap(1, 0), 2);
         Due.due("swap: how much", x.swap(1, 1), 24);
+        // Each can take just one, the strong one whichever is left: he had better be the last.
+        x = Due.bay("plain 1 9;plain 2 8;plain 9 7;one 1;one 20;one 2;hooter 1;brings 0;");
+        Due.due("swap: the second and the third", x.swap(1, 0), 12);
+        Due.due("swap: the second and the third, how much", x.swap(1, 1), 24);
+        x = Due.bay("plain 1 9;plain 2 8;plain 3 7;plain 9 6;one 1;one 2;one 20;one 3;hooter 1;brings 0;");
+        Due.due("swap: the last two", x.swap(1, 0), 23);
+        Due.due("swap: the last two, how much", x.swap(1, 1), 30);
         Due.due("swap of one alone", Due.bay("plain 1 9;one 9;").swap(5, 0), NONE);
     }
 

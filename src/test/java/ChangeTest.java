@@ -165,5 +165,14 @@ public final class ChangeTest {
             x.hide(g);
         }
         Due.due("fill() of eight", x.fill(), 8);
+        for (int g = 0; g < 8; g++) {
+            x.hide(g);
+        }
+        Due.tell(x, "plain 1 3;");
+        Due.due("what was there is gone: fill()", x.fill(), 0);
+        Due.due("what was there is gone: WORTH", x.count(4), 3);
+        Due.due("what was there is gone: STORE", x.rule(5), 1);
+        Due.due("a GOOD more is in STORE", x.stock(0, 1, 1), 2);
+        Due.due("a GOOD more: STORE", x.rule(5), 3);
     }
 }

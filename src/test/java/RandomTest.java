@@ -10,11 +10,11 @@ import java.util.Random;
 public final class RandomTest {
     private static final int RUNS = 300;
     private static final int CALLS = 512;
-    private static final String[] HEADS = {"plain", "awkward", "feather", "crate", "one", "one", "hooter", "brings"};
+    private static final String[] HEADS = {"plain", "awkward", "feather", "crate", "one", "one", "one", "hooter", "brings"};
     // How far the numbers of a call reach, by its name: each is drawn from a little below 0 to a little above.
     private static final Map<String, int[]> REACH = new HashMap<>();
     // Calls that are so slow in the Model, or change so much, that they come seldom.
-    private static final List<String> SELDOM = List.of("text", "end", "ask", "gone", "rich", "back", "hide", "see");
+    private static final List<String> SELDOM = List.of("text", "end", "gone", "rich", "back", "hide", "see");
 
     static {
         String[] rows = {"end 160", "rule 6", "good 7 5", "one 3 3", "alter 7 2 9", "train 3 1 20", "set 1 8",

@@ -124,5 +124,21 @@ public final class SeenTest {
         Due.due("ask(0, 0): ask the other", x.ask(0, 0), 21);
         Due.due("ask(0, 1): ask the other", x.ask(0, 1), 17);
         Due.due("WEEK", x.rule(2), 0);
+        // Four ask by 10s, too: that of the first in WEEK 2 is no fifth in WEEK 1.
+        x = Due.bay(ONE + "one 1;one 1;one 1;");
+        Due.due("ask(0, 0) among four", x.ask(0, 0), 20);
+        Due.due("ask(0, 1) among four", x.ask(0, 1), 17);
+        Due.due("ask(3, 0) among four", x.ask(3, 0), 23);
+        Due.due("ask(3, 1) among four", x.ask(3, 1), 18);
+        // One alone is left: 20, the strongest.
+        x = Due.bay("awkward 9 5;plain 2 1;one 9;hooter 2;brings 0;");
+        x.see(1, 0, 6);
+        Due.due("strengths(0): 20 alone", x.strengths(0), 1 << 20);
+        Due.due("ask(0, 0): one alone is left", x.ask(0, 0), NONE);
+        // 1 and 2 are left; the lighter one, which both take first, bends 1 alone, but he stays at 1.
+        x = Due.bay("plain 1 1;plain 2 1;plain 3 9;one 1;hooter 1;brings 8;");
+        x.see(1, 0, 1);
+        Due.due("strengths(0): 1 and 2", x.strengths(0), 2 + 4);
+        Due.due("ask(0, 0): 1 and 2 go alike", x.ask(0, 0), NONE);
     }
 }

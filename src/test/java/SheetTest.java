@@ -77,6 +77,10 @@ public final class SheetTest {
         Due.due("of CELLS 0: no WEIGHT", x.read(3, 1, 0, 1), -20);
         x.lay(3, 1, 5);
         Due.due("with a WEIGHT", x.read(3, 1, 0, 1), 1);
+        layRow(x, 3, 0, 9, 9, 99);
+        x.sheet(3, 1, 3);
+        x.lay(3, 1, 1);
+        Due.due("each CELL is 0", x.read(3, 1, 0, 1), 1);
     }
 
     private static void laying() {

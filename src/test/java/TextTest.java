@@ -7,6 +7,7 @@ public final class TextTest {
         ending();
         textsThatAreTaken();
         textsThatAreRefused();
+        bytesBehindTheEnd();
         refusedTextChangesNothing();
         takenTextTellsAll();
         Due.finish();
@@ -98,6 +99,9 @@ public final class TextTest {
         refused("plainx 5 6;", 0, 2);
         refused("plai 5 6;", 0, 2);
         refused("  pla in 5 6;", 2, 2);
+        refused("xlain 5 6;", 0, 2);
+        refused("z", 0, 2);
+        refused("a", 0, 2);
         refused("plain plain", 6, 2);
         refused("plainone 5", 0, 2);
         refused(";", 0, 2);
@@ -118,11 +122,28 @@ public final class TextTest {
         refused("brings 1;one 1;brings", 15, 4);
         refused("hooter 1;brings 1;hooter 1;", 18, 4);
         refused("plain 1 1;".repeat(8) + " feather", 81, 5);
+        refused("plain 1 1;".repeat(8) + "crate", 80, 5);
+        refused("plain 1 1;".repeat(8) + "plain", 80, 5);
         refused("one 1;".repeat(4) + "one 77;", 24, 5);
         refused("a".repeat(160), 0, 2);
         refused("one 5;".repeat(4) + " ".repeat(135) + ";", 159, 2);
         refused("one 5;".repeat(4) + " ".repeat(133) + "one", 157, 5);
         refused("one 5;" + " ".repeat(151) + "one", 160, 2);
+    }
+
+    private static void bytesBehindTheEnd() {
+        HaulWages x = new HaulWages();
+        Due.feedAll(x, "one 5555");
+        x.end(6);
+        Due.due("text() of 'one 55'", x.text(), -14);
+        Due.due("fault() of 'one 55'", x.fault(), 3);
+        Due.feedAll(x, "one 5;ones");
+        x.end(9);
+        Due.due("text() of 'one 5;one'", x.text(), -19);
+        Due.due("fault() of 'one 5;one'", x.fault(), 2);
+        Due.feedAll(x, "one 5;    ");
+        x.end(6);
+        Due.due("text() of 'one 5;'", x.text(), 1);
     }
 
     private static void refusedTextChangesNothing() {
