@@ -102,6 +102,14 @@ public final class SeenTest {
         Due.due("SEEN stays by back()", x.strengths(0), ALL - 2 - 4);
     }
 
+    private static void hideAll(HaulWages x, int bits) {
+        for (int g = 0; g < 8; g++) {
+            if ((bits >> g & 1) == 1) {
+                x.hide(g);
+            }
+        }
+    }
+
     private static void whenToAskWhom() {
         HaulWages x = Due.bay(ONE);
         Due.due("ask(0, 0)", x.ask(0, 0), 20);
@@ -130,6 +138,12 @@ public final class SeenTest {
         Due.due("ask(0, 1) among four", x.ask(0, 1), 17);
         Due.due("ask(3, 0) among four", x.ask(3, 0), 23);
         Due.due("ask(3, 1) among four", x.ask(3, 1), 18);
+        // Found by a search, and as the Model says: not ahead of the last WEEK that may be asked.
+        x = Due.bay("awkward 8 5;crate 6 4;plain 2 4;feather 2 5;plain 8 8;plain 4 5;plain 5 7;"
+            + "one 13;one 10;one 15;one 2;hooter 3;brings 6;");
+        hideAll(x, 91);
+        Due.due("ask(3, 0): the last WEEK", x.ask(3, 0), 203);
+        Due.due("ask(3, 1): the last WEEK", x.ask(3, 1), 3);
         // One alone is left: 20, the strongest.
         x = Due.bay("awkward 9 5;plain 2 1;one 9;hooter 2;brings 0;");
         x.see(1, 0, 6);

@@ -143,6 +143,15 @@ public final class WeeksTest {
         Due.due("in STORE", x.rule(5), 1);
         x.train(0, 0, 1);
         Due.due("gone(0), too heavy", x.gone(0), NONE);
+        // Found by a search, and as the Model says: hardly any GOOD is taken first so late.
+        x = Due.bay("plain 3 1;awkward 6 3;crate 9 3;feather 4 1;crate 4 1;crate 1 9;crate 1 5;crate 1 7;"
+            + "one 15;one 20;one 3;one 3;hooter 3;brings 3;");
+        for (int g = 0; g < 8; g++) {
+            if (g != 1) {
+                x.hide(g);
+            }
+        }
+        Due.due("gone(7), late", x.gone(7), 51);
     }
 
     private static void riches() {
