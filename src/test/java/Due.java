@@ -2,15 +2,23 @@
 final class Due {
     private static int asked = 0;
     private static int wrong = 0;
+    private static int sentences = 0;
+    private static String about = "";
 
     private Due() {
+    }
+
+    /** Names the sentence of the document that the answers behind this are about. */
+    static void sentence(String words) {
+        sentences++;
+        about = "[" + words + "] ";
     }
 
     static void due(String call, long got, long want) {
         asked++;
         if (got != want) {
             wrong++;
-            System.out.println(call + " answered " + got + ", due is " + want);
+            System.out.println(about + call + " answered " + got + ", due is " + want);
         }
     }
 
@@ -37,7 +45,8 @@ final class Due {
     }
 
     static void finish() {
-        System.out.println(asked + " answers, " + wrong + " not as due");
+        String of = sentences == 0 ? "" : " about " + sentences + " sentences";
+        System.out.println(asked + " answers" + of + ", " + wrong + " not as due");
         if (wrong != 0 || asked == 0) {
             System.exit(1);
         }

@@ -4,6 +4,8 @@ import java.lang.reflect.Method;
 import java.lang.reflect.Modifier;
 import java.nio.file.Files;
 import java.nio.file.Path;
+import java.util.HashSet;
+import java.util.List;
 import java.util.Set;
 import java.util.TreeSet;
 import java.util.regex.Matcher;
@@ -30,6 +32,8 @@ public final class FaceTest {
     public static void main(String[] args) throws Exception {
         theFace();
         theForm();
+        theClasses();
+        theMethods();
         aNewObject();
         Due.finish();
     }
@@ -81,6 +85,45 @@ public final class FaceTest {
         Due.due("classes inside", HaulWages.class.getDeclaredClasses().length <= 11 ? 1 : 0, 1);
         for (Class<?> inside : HaulWages.class.getDeclaredClasses()) {
             Due.due("static: " + inside, Modifier.isStatic(inside.getModifiers()) ? 1 : 0, 1);
+        }
+    }
+
+    /** LANGUAGE.md, rules 2, 3, 5, 11: what the classes hold. */
+    private static void theClasses() {
+        Set<Class<?>> constants = Set.of(int.class, long.class, boolean.class, char.class, String.class, int[].class,
+            long[].class, char[].class, byte[].class);
+        Set<Class<?>> all = new HashSet<>(Set.of(HaulWages.class.getDeclaredClasses()));
+        all.add(HaulWages.class);
+        for (Class<?> c : all) {
+            int fields = 0;
+            for (Field f : c.getDeclaredFields()) {
+                boolean fixed = Modifier.isStatic(f.getModifiers());
+                fields += fixed ? 0 : 1;
+                if (fixed && !f.isSynthetic()) {
+                    Due.due("a constant: " + f, Modifier.isFinal(f.getModifiers()) && constants.contains(f.getType()) ? 1 : 0, 1);
+                }
+            }
+            Due.due("some twenty fields: " + c, fields <= 20 ? 1 : 0, 1);
+            for (Method m : c.getDeclaredMethods()) {
+                Due.due("seven parameters at most: " + m, m.getParameterCount() <= 7 ? 1 : 0, 1);
+            }
+        }
+    }
+
+    /** LANGUAGE.md, rule 11: methods stay short; rule 4: signs 1 to 127. */
+    private static void theMethods() throws Exception {
+        List<String> lines = Files.readAllLines(Path.of("src/main/java/HaulWages.java"));
+        Pattern head = Pattern.compile("( {4}| {8})[^ /}].*\\) \\{");
+        for (int i = 0; i < lines.size(); i++) {
+            Matcher m = head.matcher(lines.get(i));
+            if (m.matches()) {
+                int end = i;
+                while (!lines.get(end).equals(m.group(1) + "}")) {
+                    end++;
+                }
+                Due.due("some sixty lines: " + lines.get(i).trim(), end - i <= 60 ? 1 : 0, 1);
+            }
+            Due.due("line " + (i + 1) + ": signs", lines.get(i).chars().allMatch(c -> c >= 32 && c < 127) ? 1 : 0, 1);
         }
     }
 
