@@ -286,6 +286,12 @@ public final class BoundsOfBestTest {
         Due.due("a feather PAYS 2 less: not even 9", kinds.price(1), NONE);
         kinds.alter(0, 2, 6);
         Due.due("a feather PAYS 2 less: 9", kinds.price(1), 9);
+        kinds.hide(0);
+        kinds.train(0, 0, 2);
+        for (int k = 0; k < 4; k++) {
+            kinds.alter(1, 0, k);
+            Due.due("there is no other: 0 by KIND " + k, kinds.price(1), 0);
+        }
     }
 
     private static void priceByNone() {

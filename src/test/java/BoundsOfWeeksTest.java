@@ -17,6 +17,7 @@ public final class BoundsOfWeeksTest {
         aheadWhat();
         goneWhich();
         goneThisWeek();
+        goneLate();
         goneInNone();
         richWhom();
         richBehind();
@@ -115,6 +116,11 @@ public final class BoundsOfWeeksTest {
         Due.due("none is brought", x.runs(60, 1), 0);
         x.set(1, 1);
         Due.due("one is brought", x.runs(1, 1), 1);
+        HaulWages gone = Due.bay("one 5;");
+        gone.train(0, 1, 40);
+        Due.due("the least of one alone", gone.runs(5, 4), 40);
+        Due.tell(gone, "plain 3 5;");
+        Due.due("he is gone: the least of nobody", gone.runs(5, 4), 0);
         HaulWages last = Due.bay("one 5;one 5;one 5;one 5;");
         for (int p = 0; p < 4; p++) {
             last.train(p, 1, 40 - p);
@@ -168,6 +174,25 @@ public final class BoundsOfWeeksTest {
         x.weeks(1);
         Due.due("gone(0), from the next WEEK on", x.gone(0), 0);
         Due.due("gone(1), taken and never brought", x.gone(1), NONE);
+    }
+
+    private static void goneLate() {
+        Due.sentence("gone: in which of the next ones (to 60)");
+        // The latest that long searches found: the strong ones are BENT down one by one before the last GOOD is brought.
+        HaulWages x = Due.bay("crate 9 2;awkward 6 3;feather 5 2;feather 3 0;plain 7 2;plain 1 5;feather 1 9;awkward 1 9;"
+            + "one 15;one 20;one 3;one 3;hooter 3;brings 3;");
+        int[] hidden = {1, 2, 3, 7};
+        for (int g : hidden) {
+            x.hide(g);
+        }
+        Due.due("gone(7)", x.gone(7), 51);
+        x.weeks(1);
+        Due.due("gone(7), a WEEK later", x.gone(7), 50);
+        x.weeks(30);
+        Due.due("gone(7), 31 WEEKS later", x.gone(7), 20);
+        x.weeks(20);
+        Due.due("gone(7), in this WEEK", x.gone(7), 0);
+        Due.due("he takes it", x.one(0, 2), 128);
     }
 
     private static void goneInNone() {
