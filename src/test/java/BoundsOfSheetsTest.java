@@ -75,12 +75,24 @@ public final class BoundsOfSheetsTest {
         }
         x.hide(7);
         x.keep(0);
+        x.set(0, 0);
+        x.set(1, 8);
+        for (int p = 0; p < 4; p++) {
+            x.train(p, 0, 20);
+            x.train(p, 1, 999);
+        }
+        x.weeks(1);
         Due.due("back(1)", x.back(1), 0);
-        Due.due("no GOODS", x.rule(0), 0);
+        int[] rules = {0, 4, 0, 6, 0, 0, 0};
+        for (int what = 0; what < rules.length; what++) {
+            Due.due("rule(" + what + ") of IMAGE 1", x.rule(what), rules[what]);
+        }
         Due.due("there is no GOOD 0", x.good(0, 0), BAD);
         Due.due("back(0)", x.back(0), 0);
-        Due.due("GOODS", x.rule(0), 8);
-        Due.due("in STORE", x.rule(5), 127);
+        rules = new int[] {8, 4, 0, 6, 0, 127, 0};
+        for (int what = 0; what < rules.length; what++) {
+            Due.due("rule(" + what + ") of IMAGE 0", x.rule(what), rules[what]);
+        }
         Due.due("WORTH of the last", x.good(7, 2), 8);
         Due.due("STRENGTH of the last", x.one(3, 0), 4);
     }
@@ -100,11 +112,13 @@ public final class BoundsOfSheetsTest {
     private static void backToNone() {
         Due.sentence("back: STATE: there is none");
         HaulWages x = Due.bay("one 5;");
+        x.see(0, 0, 7);
         Due.due("back(0)", x.back(0), STATE);
         Due.due("back(1)", x.back(1), STATE);
         x.keep(1);
         Due.due("back(0), another is kept", x.back(0), STATE);
         Due.due("back(1)", x.back(1), 0);
+        Due.due("SEEN is no part of an IMAGE", x.count(0), 1);
         Due.tell(x, "one 5;");
         Due.due("back(1) behind a text", x.back(1), STATE);
     }

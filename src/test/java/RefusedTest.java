@@ -392,6 +392,11 @@ public final class RefusedTest {
         for (int i = 0; i < texts.length; i++) {
             String text = texts[i];
             t.changesNothing("text() of '" + text + "'", x -> Due.tell(x, text), -10 - places[i], FAULTS_VIEW);
+            HaulWages x = busy();
+            x.end(0);
+            Due.tell(x, text);
+            Due.due("torn() behind '" + text + "'", x.torn(), 3);
+            Due.due("fault() behind '" + text + "'", x.fault(), i + 1);
         }
     }
 
