@@ -155,6 +155,9 @@ public final class BoundsOfChangeTest {
         HaulWages x = Due.bay(EIGHT);
         Edge.bounds("hide(_)", x::hide, 0, 1, 7, 1);
         Due.due("in STORE", x.rule(5), 126);
+        Due.due("good(0, 3)", x.good(0, 3), 1);
+        Due.due("good(1, 3)", x.good(1, 3), 0);
+        Due.due("good(7, 3)", x.good(7, 3), 1);
         HaulWages two = Due.bay("plain 1 1;plain 1 1;one 5;");
         Edge.bounds("hide(_) of two", two::hide, 0, 1, 1, 1);
         HaulWages none = Due.bay("one 5;");

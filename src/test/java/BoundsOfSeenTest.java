@@ -31,6 +31,8 @@ public final class BoundsOfSeenTest {
         seenFromNowOn();
         askWhom();
         askWhat();
+        askBehindTheLastWeek();
+        askTheOther();
         askFewerThanNow();
         askNone();
         driftWeeks();
@@ -83,6 +85,10 @@ public final class BoundsOfSeenTest {
         Edge.bounds("mean(_, 1, 0)", v -> x.mean(v, 1, 0), 0, 7, 10, 0);
         Edge.bounds("mean(_, 2, 0)", v -> x.mean(v, 2, 0), 0, 14, 10, 0);
         Edge.bounds("mean(_, 2, 1)", v -> x.mean(v, 2, 1), 0, 1, 10, 1);
+        Due.due("mean(1, 2, 0)", x.mean(1, 2, 0), 63);
+        Due.due("mean(1, 2, 1)", x.mean(1, 2, 1), 5);
+        Due.due("mean(9, 2, 0)", x.mean(9, 2, 0), 7);
+        Due.due("mean(9, 2, 1)", x.mean(9, 2, 1), 5);
     }
 
     private static void meanWeeks() {
@@ -322,6 +328,30 @@ public final class BoundsOfSeenTest {
         Edge.bad("ask(0, _), NONE else", what -> none.ask(0, what), 0, 1);
     }
 
+    private static void askBehindTheLastWeek() {
+        Due.sentence("ask: behind how many WEEKS (0 to 20)");
+        // Found by a search, and as the Model says: no WEEK ahead of the last one tells as much.
+        HaulWages x = Due.bay("awkward 8 5;crate 6 4;plain 2 4;feather 2 5;plain 8 8;plain 4 5;plain 5 7;"
+            + "one 13;one 10;one 15;one 2;hooter 3;brings 6;");
+        int[] hidden = {0, 1, 3, 4, 6};
+        for (int g : hidden) {
+            x.hide(g);
+        }
+        Due.due("WEEK 20, whose", x.ask(3, 0), 203);
+        Due.due("WEEK 20, how many", x.ask(3, 1), 3);
+    }
+
+    private static void askTheOther() {
+        Due.sentence("ask: 10 times the WEEKS and who, of several the least");
+        HaulWages x = Due.bay("plain 3 5;plain 2 4;one 4;one 20;one 20;one 20;hooter 1;brings 8;");
+        // He has 999 whatever he takes: what he leaves is taken by the next.
+        x.train(0, 1, 999);
+        Due.due("ask the next", x.ask(0, 0), 21);
+        Due.due("ask the next, how many", x.ask(0, 1), 17);
+        x.train(0, 1, 0);
+        Due.due("ask him", x.ask(0, 0), 20);
+    }
+
     private static void askFewerThanNow() {
         Due.sentence("ask: fewest are left at the worst, fewer than now, of several the least");
         HaulWages x = Due.bay("plain 2 7;one 9;brings 8;");
@@ -342,6 +372,10 @@ public final class BoundsOfSeenTest {
         HaulWages late = Due.bay("plain 2 7;one 9;brings 8;");
         late.hide(0);
         Due.due("a WEEK later", late.ask(0, 0), 30);
+        HaulWages strong = Due.bay("awkward 9 5;plain 2 1;one 9;brings 0;");
+        strong.see(1, 0, 6);
+        Due.due("20 alone", strong.strengths(0), 1 << 20);
+        Due.due("of 20 alone, none is fewer", strong.ask(0, 0), NONE);
     }
 
     private static void askNone() {
@@ -418,6 +452,7 @@ public final class BoundsOfSeenTest {
         for (String some : goods) {
             for (int seed : seeds) {
                 HaulWages x = Due.bay(some + "one 19;one 6;one 4;brings 3;");
+                x.train(0, 1, 30);
                 int more = x.drift(seed, 60, 0);
                 int bent = x.drift(seed, 60, 1);
                 Due.due("WEEK stays", x.rule(2), 0);
