@@ -147,6 +147,12 @@ public final class BestTest {
         // As it is: 5 and 5. Without one of the two: 5, and 4 and 4.
         Due.due("lose: of several the first", x.lose(1, 0), 1);
         Due.due("lose: how much", x.lose(1, 1), 13);
+        x = Due.bay("plain 9 9;plain 5 5;plain 1 4;plain 1 4;one 5;hooter 2;brings 0;");
+        x.hide(0);
+        Due.due("lose: the first is TAKEN, the second had better be hidden", x.lose(1, 0), 1);
+        Due.due("lose: how much", x.lose(1, 1), 8);
+        Due.due("what would be taken in two WEEKS", x.mean(0, 2, 0), 13);
+        Due.due("lose: it is in STORE yet", x.lose(1, 0), 1);
     }
 
     private static void prices() {
@@ -171,6 +177,10 @@ public final class BestTest {
     }
 
     private static void bestKinds() {
+        // 8 and 1, as a crate, are more than 4 and 1, though the least of the two is 1 by each KIND.
+        HaulWages two = Due.bay("plain 4 4;plain 1 1;one 8;one 1;hooter 1;brings 8;");
+        Due.due("kind: WAGES of all", two.kind(0, 1, 0), 3);
+        Due.due("kind: WAGES of all, how much", two.kind(0, 1, 1), 9);
         HaulWages x = Due.bay("plain 4 4;one 8;hooter 1;brings 8;");
         Due.due("kind(0, 1, 0)", x.kind(0, 1, 0), 3);
         Due.due("kind(0, 1, 1)", x.kind(0, 1, 1), 8);

@@ -423,10 +423,13 @@ public final class Model {
         if (noGood(g)) {
             return BAD;
         }
+        Stock s = now;
         for (int n = 0; n <= 60; n++) {
-            if (now.behind(n).next(0).took(g)) {
+            Outcome o = s.next(0);
+            if (o.took(g)) {
                 return n;
             }
+            s = o.after();
         }
         return NONE;
     }
@@ -435,10 +438,12 @@ public final class Model {
         if (noOne(p) || !in(v, 0, 999)) {
             return BAD;
         }
+        Stock s = now;
         for (int n = 0; n <= 60; n++) {
-            if (now.behind(n).people().get(p).wages() >= v) {
+            if (s.people().get(p).wages() >= v) {
                 return n;
             }
+            s = s.behind(1);
         }
         return NONE;
     }
@@ -657,21 +662,25 @@ public final class Model {
         if (noOne(p) || !in(what, 0, 1)) {
             return BAD;
         }
-        int all = strengths(p);
-        int[] best = {NONE, Integer.bitCount(all)};
+        List<Stock> left = new ArrayList<>();
+        for (int s = 1; s <= 20; s++) {
+            if (asSeen(withStrength(p, s))) {
+                left.add(withStrength(p, s));
+            }
+        }
+        int[] best = {NONE, left.size()};
         for (int n = 0; n <= 20; n++) {
             for (int q = 0; q < now.people().size(); q++) {
                 Map<Integer, Integer> groups = new HashMap<>();
-                for (int s = 1; s <= 20; s++) {
-                    if ((all >> s) % 2 == 1) {
-                        groups.merge(withStrength(p, s).behind(n).people().get(q).wages(), 1, Integer::sum);
-                    }
+                for (Stock s : left) {
+                    groups.merge(s.people().get(q).wages(), 1, Integer::sum);
                 }
                 int worst = groups.values().stream().max(Integer::compare).orElse(0);
                 if (worst < best[1]) {
                     best = new int[] {10 * n + q, worst};
                 }
             }
+            left.replaceAll(s -> s.behind(1));
         }
         return best[0] == NONE ? NONE : best[what];
     }

@@ -9,9 +9,13 @@ public final class SeenTest {
         seeing();
         forgetting();
         whichStrengths();
+        strengthsOfEach();
         whichKindsAndWeights();
+        weightsOfEach();
         fromHowItStands();
         whenToAskWhom();
+        askOfTheSecond();
+        askOfFew();
         Due.finish();
     }
 
@@ -70,6 +74,21 @@ public final class SeenTest {
         Due.due("STRENGTH stays", x.one(0, 0), 4);
     }
 
+    /** By one and the same WAGES that are SEEN, each ONE has STRENGTHS of his own. */
+    private static void strengthsOfEach() {
+        HaulWages x = Due.bay("plain 3 5;plain 2 4;one 4;one 4;hooter 1;brings 8;");
+        x.see(1, 1, 4);
+        Due.due("the first has to take the 5", x.strengths(0), ALL - 2 - 4);
+        Due.due("the second has to take the 4", x.strengths(1), ALL - 2);
+        x.forget(0);
+        x.see(1, 0, 5);
+        Due.due("the first takes 5", x.strengths(0), ALL - 2 - 4);
+        Due.due("the second comes behind him", x.strengths(1), ALL);
+        x.see(1, 1, 0);
+        Due.due("the 4 is left by none of the first's", x.strengths(0), 0);
+        Due.due("the 4 is too heavy for the second", x.strengths(1), 2);
+    }
+
     private static void whichKindsAndWeights() {
         HaulWages x = Due.bay(ONE);
         Due.due("kinds(0) of nothing SEEN", x.kinds(0), 15);
@@ -89,6 +108,21 @@ public final class SeenTest {
         Due.due("weights(-1)", x.weights(-1), BAD);
         Due.due("KIND stays", x.good(0, 0), 0);
         Due.due("WEIGHT stays", x.good(0, 1), 3);
+    }
+
+    /** It is that GOOD which is heavier or lighter, by its own KIND and WORTH, and no other. */
+    private static void weightsOfEach() {
+        HaulWages x = Due.bay(ONE);
+        x.see(1, 0, 5);
+        Due.due("weights(1): he takes the 5, however light the 4 is", x.weights(1), 1022);
+        x = Due.bay("crate 2 3;plain 3 5;one 7;hooter 1;brings 8;");
+        x.see(1, 0, 6);
+        Due.due("weights(0) of a crate: 1 to 4", x.weights(0), 2 + 4 + 8 + 16);
+        Due.due("weights(1) beside a crate", x.weights(1), 1022);
+        x.forget(0);
+        x.see(1, 0, 5);
+        Due.due("weights(0) of a crate: 5 to 9", x.weights(0), 32 + 64 + 128 + 256 + 512);
+        Due.due("weights(1): none, he takes the crate", x.weights(1), 0);
     }
 
     private static void fromHowItStands() {
@@ -154,5 +188,40 @@ public final class SeenTest {
         x.see(1, 0, 1);
         Due.due("strengths(0): 1 and 2", x.strengths(0), 2 + 4);
         Due.due("ask(0, 0): 1 and 2 go alike", x.ask(0, 0), NONE);
+    }
+
+    private static void askOfTheSecond() {
+        HaulWages x = Due.bay("plain 3 5;plain 2 4;one 4;one 4;hooter 1;brings 8;");
+        x.see(1, 1, 4);
+        // 2 to 20 are left of the second: by 2 he is BENT, and has 4 behind 2 WEEKS; by each other 8.
+        Due.due("ask(1, 0)", x.ask(1, 0), 21);
+        Due.due("ask(1, 1)", x.ask(1, 1), 18);
+        // 3 to 20 are left of the first: by 3 he is BENT, and has 9 behind 2 WEEKS; by each other 10.
+        Due.due("ask(0, 0)", x.ask(0, 0), 20);
+        Due.due("ask(0, 1)", x.ask(0, 1), 17);
+    }
+
+    /** Those who are not as SEEN do not count, be it that they were asked about before or not. */
+    private static void askOfFew() {
+        HaulWages x = Due.bay("plain 3 5;plain 2 4;one 4;hooter 2;brings 8;");
+        x.see(1, 0, 5);
+        // By 3 he is BENT, and takes the 4 then; by 4 the 5 again.
+        Due.due("3 and 4", x.strengths(0), 8 + 16);
+        Due.due("ask(0, 0) of 3 and 4", x.ask(0, 0), 20);
+        Due.due("ask(0, 1) of 3 and 4", x.ask(0, 1), 1);
+        // The 4 is brought behind the first WEEK. 1 takes nothing, 2 takes it once, as he is BENT by it, 3 to 8 each time.
+        for (int before = 0; before < 2; before++) {
+            x = Due.bay("plain 2 4;plain 9 9;one 5;hooter 1;brings 1;");
+            x.hide(0);
+            if (before == 1) {
+                // 9 to 20 take the 9, which never comes back, and go alike from then on.
+                Due.due("ask(0, 0) of all", x.ask(0, 0), 10);
+                Due.due("ask(0, 1) of all", x.ask(0, 1), 12);
+            }
+            x.see(1, 0, 0);
+            Due.due("1 to 8", x.strengths(0), 510);
+            Due.due("ask(0, 0) of 1 to 8", x.ask(0, 0), 30);
+            Due.due("ask(0, 1) of 1 to 8", x.ask(0, 1), 6);
+        }
     }
 }
